@@ -6,7 +6,7 @@ import java.util.ArrayList;
 import java.util.Collections;
 import java.util.List;
 
-/** The public face, as the document writes it, and the run that README.md shows. */
+/** The public face, as the document writes it, the room that a run takes, and the run that README.md shows. */
 final class FaceTest {
     private static final String[] FACE = {
         "boolean put(int, int)", "boolean set(int, int)", "boolean cut(int)", "int size()", "int at(int)",
@@ -17,7 +17,7 @@ final class FaceTest {
     public static void main(String[] args) throws Exception {
         face();
         nested();
-        nothingIsMade();
+        littleIsMade();
         readme();
         Check.end();
     }
@@ -72,20 +72,23 @@ final class FaceTest {
         }
     }
 
-    /** All calls of a run live in one room, so only the constructor makes objects. */
-    private static void nothingIsMade() {
+    /** All calls of a run live in one room of 7.3 million fields and elements: an object takes a tenth of it at most. */
+    private static void littleIsMade() {
         com.sun.management.ThreadMXBean threads =
             (com.sun.management.ThreadMXBean) java.lang.management.ManagementFactory.getThreadMXBean();
-        PathShelf shelf = new PathShelf();
-        allCalls(shelf);
         long thread = Thread.currentThread().getId();
+        useUp(new PathShelf());
         long before = threads.getThreadAllocatedBytes(thread);
-        for (int k = 0; k < 200; k++) {
+        useUp(new PathShelf());
+        long made = threads.getThreadAllocatedBytes(thread) - before;
+        Check.due("bytes made by an object and its calls: " + made, made < 730_000 * 4, true);
+    }
+
+    /** 14 times 35 calls. */
+    private static void useUp(PathShelf shelf) {
+        for (int k = 0; k < 14; k++) {
             allCalls(shelf);
         }
-        long made = threads.getThreadAllocatedBytes(thread) - before;
-        // The measuring itself makes a little; a call that makes an object each time makes more.
-        Check.due("bytes made by 7000 calls: " + made, made < 3000, true);
     }
 
     private static void allCalls(PathShelf shelf) {
@@ -127,7 +130,7 @@ final class FaceTest {
     }
 
     private static void readme() {
-        PathShelf shelf = new PathShelf();
+        Shelf shelf = new Shelf();
         shelf.put(0x0d016964, 4);
         shelf.put(0x00000501, 4);
         shelf.put(0x61000002, 4);
@@ -142,6 +145,6 @@ final class FaceTest {
         Check.due("examined", shelf.examined(), 1);
         shelf.put(0x010001, 3);
         Check.due("change", shelf.change(2), 1);
-        Check.dueStored("a is 3", shelf, Check.stored(5, Check.element("a", Check.integer(3))));
+        shelf.dueStored("a is 3", "{id:5, a:3}");
     }
 }

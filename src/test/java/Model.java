@@ -568,4 +568,9 @@ final class Model {
     int count() {
         return documents.size();
     }
+
+    /** No call of the face: for a look at all documents. */
+    List<Integer> numbers() {
+        return new ArrayList<>(documents.keySet());
+    }
 }

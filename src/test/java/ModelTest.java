@@ -3,19 +3,26 @@ import java.util.List;
 import java.util.Map;
 import java.util.Random;
 import java.util.TreeMap;
+import java.util.function.Predicate;
+import java.util.function.ToIntFunction;
 
 /** Promises 1 to 20: runs of calls, drawn from fixed seeds, on PathShelf and on Model at once. */
 final class ModelTest {
     private static final int RUNS = 4000;
-    private static final int CALLS = 512;
+    /** A round of calls, and a look at a document behind the last round, take no more. */
+    private static final int ROUND = 100;
+    private static final int LOOK = 64;
+    /** More than the buffer takes, so that some are refused. */
+    private static final int MOST_TYPED = 88;
     private static final String[] NAMES = {"a", "a", "b", "b", "c", "ab", "abcd", "id"};
     private static final int[] NUMBERS = {0, 0, 1, 1, 2, 3, 255, 256, -1, 32767, -32768};
     private static final String[] TEXTS = {"", "a", "ab", "b", "abcdefgh", " ", "~"};
 
     private final Random random;
-    private final PathShelf shelf = new PathShelf();
+    private final Shelf shelf = new Shelf();
     private final Model model = new Model();
     private final List<String> said = new ArrayList<>();
+    private final List<ToIntFunction<Shelf>> calls = new ArrayList<>();
     /** Few numbers are often used already; many fill the store. */
     private final int numbers;
     /** Some runs insert much more than they do other things, so that the store gets full. */
@@ -29,6 +36,53 @@ final class ModelTest {
     }
 
     public static void main(String[] args) {
+        everyByteOfADocument();
+        everyByteOfAnOperand();
+        drawnRuns();
+        Check.end();
+    }
+
+    /** Where bytes are faulty, with each byte of a document changed to each other one. */
+    private static void everyByteOfADocument() {
+        for (String text : new String[] {"{id:9}", "{id:9, a:'xy', abcd:{f:[true,null,{g:-1}], h:{}}, b:[[],[[]]]}", "{id:9, a:{b:{c:{d:1, e:''}}}}"}) {
+            byte[] whole = Written.document(text);
+            for (int p = 0; p < whole.length; p++) {
+                for (int b = 0; b < 256; b++) {
+                    byte[] row = Written.with(whole, p, b);
+                    Shelf shelf = new Shelf();
+                    shelf.type(row);
+                    Check.due("insert of " + Written.hex(row), shelf.insert(), modelWith(row).insert());
+                }
+            }
+        }
+    }
+
+    private static void everyByteOfAnOperand() {
+        for (String text : new String[] {"5", "'xy'", "true", "null", "{a:'xy', abcd:{f:[true,null,{g:-1}], h:{}}, b:[[],[[]]]}", "[[[[1,'']]]]"}) {
+            byte[] whole = Written.value(text);
+            for (int p = 0; p < whole.length; p++) {
+                for (int b = 0; b < 256; b++) {
+                    byte[] row = Written.with(whole, p, b);
+                    Shelf shelf = new Shelf();
+                    shelf.path('a', 1);
+                    shelf.type(row);
+                    Model model = modelWith(row);
+                    model.path('a', 1);
+                    Check.due("where of " + Written.hex(row), shelf.where(0), model.where(0));
+                }
+            }
+        }
+    }
+
+    private static Model modelWith(byte[] row) {
+        Model model = new Model();
+        for (byte b : row) {
+            model.put(b, 1);
+        }
+        return model;
+    }
+
+    private static void drawnRuns() {
         Map<String, Integer> seen = new TreeMap<>();
         for (int run = 0; run < RUNS; run++) {
             ModelTest test = new ModelTest(run);
@@ -48,7 +102,6 @@ final class ModelTest {
             "find ok", "find none", "fetch ok", "remove ok", "entries ok"}) {
             Check.due("often enough: " + kind, seen.getOrDefault(kind, 0) >= 200, true);
         }
-        Check.end();
     }
 
     private static String kind(String line) {
@@ -61,60 +114,64 @@ final class ModelTest {
     }
 
     private void run() {
-        while (said.size() < CALLS && !wrong) {
+        while (shelf.callsLeft() >= ROUND + LOOK && !wrong) {
             int draw = random.nextInt(15 + inserts) - inserts + 5;
             if (draw < 5) {
                 writeDocument();
-                same("insert()", shelf.insert(), model.insert());
+                same("insert()", Shelf::insert, model.insert());
             } else if (draw < 8) {
                 writePath();
                 writeOperand();
                 int form = odd() ? random.nextInt(12) - 2 : random.nextInt(8);
-                same("where(" + form + ")", shelf.where(form), model.where(form));
+                same("where(" + form + ")", each -> each.where(form), model.where(form));
             } else if (draw < 12) {
                 writePath();
                 writeOperand();
                 int operator = odd() ? random.nextInt(9) - 2 : random.nextInt(5);
-                same("change(" + operator + ")", shelf.change(operator), model.change(operator));
+                same("change(" + operator + ")", each -> each.change(operator), model.change(operator));
                 lookAtResults();
             } else if (draw < 14) {
-                same("find()", shelf.find(), model.find());
+                same("find()", Shelf::find, model.find());
                 lookAtResults();
             } else {
                 small(draw);
             }
         }
-        lookAtAll();
+        for (int number : model.numbers()) {
+            if (!wrong) {
+                lookAtDocument(number);
+            }
+        }
     }
 
     private void small(int draw) {
         int number = number();
         switch (draw) {
             case 14:
-                same("fetch(" + number + ")", shelf.fetch(number), model.fetch(number));
+                same("fetch(" + number + ")", each -> each.fetch(number), model.fetch(number));
                 lookAtBuffer();
                 break;
             case 15:
                 if (random.nextInt(3) == 0) {
-                    same("remove(" + number + ")", bit(shelf.remove(number)), model.remove(number));
+                    sameTruth("remove(" + number + ")", each -> each.remove(number), model.remove(number));
                 }
                 break;
             case 16:
                 writePath();
                 int i = odd() ? random.nextInt(6) - 2 : random.nextInt(2);
-                same("index(" + i + ")", bit(shelf.index(i)), model.index(i));
+                sameTruth("index(" + i + ")", each -> each.index(i), model.index(i));
                 break;
             case 17:
-                same("anywhere()", shelf.anywhere(), model.anywhere());
+                same("anywhere()", Shelf::anywhere, model.anywhere());
                 break;
             case 18:
                 int p = random.nextInt(90) - 4;
                 int b = odd() ? random.nextInt(600) - 200 : random.nextInt(8);
-                same("set(" + p + ", " + b + ")", bit(shelf.set(p, b)), model.set(p, b));
+                sameTruth("set(" + p + ", " + b + ")", each -> each.set(p, b), model.set(p, b));
                 break;
             default:
                 int n = random.nextInt(90) - 4;
-                same("cut(" + n + ")", bit(shelf.cut(n)), model.cut(n));
+                sameTruth("cut(" + n + ")", each -> each.cut(n), model.cut(n));
                 break;
         }
     }
@@ -128,38 +185,42 @@ final class ModelTest {
     }
 
     private void lookAtResults() {
-        same("examined()", shelf.examined(), model.examined());
-        for (int i = 0; i < 2; i++) {
-            same("entries(" + i + ")", shelf.entries(i), model.entries(i));
-        }
+        same("examined()", Shelf::examined, model.examined());
+        same("entries(0)", each -> each.entries(0), model.entries(0));
+        same("entries(1)", each -> each.entries(1), model.entries(1));
         int k = random.nextInt(18) - 1;
-        same("found(" + k + ")", shelf.found(k), model.found(k));
-        same("size()", shelf.size(), model.size());
-        same("count()", shelf.count(), model.count());
+        same("found(" + k + ")", each -> each.found(k), model.found(k));
+        same("size()", Shelf::size, model.size());
+        same("count()", Shelf::count, model.count());
     }
 
     private void lookAtBuffer() {
-        same("size()", shelf.size(), model.size());
-        boolean equal = true;
+        same("size()", Shelf::size, model.size());
         for (int p = -1; p <= model.size(); p++) {
-            equal = equal && shelf.at(p) == model.at(p);
-        }
-        same("every byte()", bit(equal), 1);
-    }
-
-    private void lookAtAll() {
-        lookAtBuffer();
-        for (int number = 0; number < 1000; number++) {
-            int length = model.fetch(number);
-            if (length != shelf.fetch(number)) {
-                same("at the end fetch(" + number + ")", shelf.fetch(number), length);
-            } else if (length >= 0) {
-                lookAtBuffer();
-            }
+            int place = p;
+            same("at(" + p + ")", each -> each.at(place), model.at(p));
         }
     }
 
-    private void same(String call, int got, int want) {
+    /** On an object that is new for each document, so that none is used for too many calls. */
+    private void lookAtDocument(int number) {
+        Shelf twin = new Shelf();
+        for (ToIntFunction<Shelf> call : calls) {
+            call.applyAsInt(twin);
+        }
+        said.add("at the end fetch(" + number + ") " + twin.fetch(number));
+        byte[] got = twin.buffer();
+        model.fetch(number);
+        boolean same = got.length == model.size();
+        for (int p = 0; p < got.length && same; p++) {
+            same = (got[p] & 255) == model.at(p);
+        }
+        wrong = !same;
+    }
+
+    private void same(String call, ToIntFunction<Shelf> on, int want) {
+        int got = on.applyAsInt(shelf);
+        calls.add(on);
         said.add(call + " " + got);
         if (got != want) {
             wrong = true;
@@ -167,8 +228,8 @@ final class ModelTest {
         }
     }
 
-    private static int bit(boolean truth) {
-        return truth ? 1 : 0;
+    private void sameTruth(String call, Predicate<Shelf> on, int want) {
+        same(call, each -> on.test(each) ? 1 : 0, want);
     }
 
     // What is typed
@@ -178,11 +239,11 @@ final class ModelTest {
         for (int k = 0; k < names; k++) {
             String name = NAMES[random.nextInt(NAMES.length)];
             int n = odd() ? random.nextInt(8) - 1 : name.length();
-            int word = Check.word(name);
+            int word = Written.word(name);
             if (k == 0 && !odd()) {
-                same("path(" + word + ", " + n + ")", bit(shelf.path(word, n)), model.path(word, n));
+                sameTruth("path(" + word + ", " + n + ")", each -> each.path(word, n), model.path(word, n));
             } else {
-                same("step(" + word + ", " + n + ")", bit(shelf.step(word, n)), model.step(word, n));
+                sameTruth("step(" + word + ", " + n + ")", each -> each.step(word, n), model.step(word, n));
             }
         }
     }
@@ -191,9 +252,9 @@ final class ModelTest {
         int number = number();
         byte[] row;
         if (odd()) {
-            row = Check.behindType(value(3, 1));
+            row = Written.behindType(value(3, 1));
         } else {
-            row = Check.behindType(Check.document(Check.element("id", Check.integer(number)), elements(2, List.of("id"))));
+            row = Written.behindType(Written.documentOf(Written.element("id", Written.integer(number)), elements(2, List.of("id"))));
         }
         write(spoilt(row));
     }
@@ -205,14 +266,15 @@ final class ModelTest {
     }
 
     private void write(byte[] row) {
-        same("cut(0)", bit(shelf.cut(0)), model.cut(0));
-        for (int p = 0; p < row.length; p += 4) {
+        sameTruth("cut(0)", each -> each.cut(0), model.cut(0));
+        for (int p = 0; p < row.length && p < MOST_TYPED; p += 4) {
             int n = Math.min(4, row.length - p);
-            int word = random.nextInt() << 8;
+            int high = random.nextInt() << 8;
             for (int k = 0; k < n; k++) {
-                word = (word << 8) | (row[p + k] & 255);
+                high = (high << 8) | (row[p + k] & 255);
             }
-            same("put(" + word + ", " + n + ")", bit(shelf.put(word, n)), model.put(word, n));
+            int word = high;
+            sameTruth("put(" + word + ", " + n + ")", each -> each.put(word, n), model.put(word, n));
         }
     }
 
@@ -226,7 +288,7 @@ final class ModelTest {
             case 0:
                 return java.util.Arrays.copyOf(row, p);
             case 1:
-                return Check.join(row, Check.bytes(random.nextInt(8)));
+                return Written.join(row, Written.bytes(random.nextInt(8)));
             case 2:
                 other[p] = (byte) random.nextInt(256);
                 return other;
@@ -235,7 +297,7 @@ final class ModelTest {
                 return other;
             default:
                 // A row with a byte twice, its first T mended or not.
-                byte[] longer = Check.join(java.util.Arrays.copyOf(row, p + 1), java.util.Arrays.copyOfRange(row, p, row.length));
+                byte[] longer = Written.join(java.util.Arrays.copyOf(row, p + 1), java.util.Arrays.copyOfRange(row, p, row.length));
                 if (random.nextBoolean()) {
                     longer[0]++;
                 }
@@ -246,21 +308,21 @@ final class ModelTest {
     private byte[] value(int type, int depth) {
         switch (type) {
             case 1:
-                return Check.integer(NUMBERS[random.nextInt(NUMBERS.length)]);
+                return Written.integer(NUMBERS[random.nextInt(NUMBERS.length)]);
             case 2:
-                return Check.text(TEXTS[random.nextInt(TEXTS.length)]);
+                return Written.text(TEXTS[random.nextInt(TEXTS.length)]);
             case 3:
-                return Check.document(elements(depth + 1, List.of()));
+                return Written.documentOf(elements(depth + 1, List.of()));
             case 4:
                 byte[][] items = new byte[random.nextInt(4)][];
                 for (int k = 0; k < items.length; k++) {
                     items[k] = value(type(depth + 1), depth + 1);
                 }
-                return Check.array(items);
+                return Written.array(items);
             case 5:
-                return Check.bool(random.nextBoolean());
+                return Written.bool(random.nextBoolean());
             default:
-                return Check.nothing();
+                return Written.nothing();
         }
     }
 
@@ -280,7 +342,7 @@ final class ModelTest {
             String name = NAMES[random.nextInt(NAMES.length)];
             if (!names.contains(name) || random.nextInt(40) == 0) {
                 names.add(name);
-                all = Check.join(all, Check.element(name, value(type(depth), depth)));
+                all = Written.join(all, Written.element(name, value(type(depth), depth)));
             }
         }
         return all;
