@@ -44,7 +44,8 @@ final class ModelTest {
 
     /** Where bytes are faulty, with each byte of a document changed to each other one. */
     private static void everyByteOfADocument() {
-        for (String text : new String[] {"{id:9}", "{id:9, a:'xy', abcd:{f:[true,null,{g:-1}], h:{}}, b:[[],[[]]]}", "{id:9, a:{b:{c:{d:1, e:''}}}}"}) {
+        String[] texts = {"{id:9}", "{id:9, a:'xy', abcd:{f:[true,null,{g:-1}], h:{}}, b:[[],[[]]]}", "{id:9, a:{b:{c:{d:1, e:''}}}}"};
+        for (String text : texts) {
             byte[] whole = Written.document(text);
             for (int p = 0; p < whole.length; p++) {
                 for (int b = 0; b < 256; b++) {
@@ -58,7 +59,8 @@ final class ModelTest {
     }
 
     private static void everyByteOfAnOperand() {
-        for (String text : new String[] {"5", "'xy'", "true", "null", "{a:'xy', abcd:{f:[true,null,{g:-1}], h:{}}, b:[[],[[]]]}", "[[[[1,'']]]]"}) {
+        String[] texts = {"5", "'xy'", "true", "null", "{a:'xy', abcd:{f:[true,null,{g:-1}], h:{}}, b:[[],[[]]]}", "[[[[1,'']]]]"};
+        for (String text : texts) {
             byte[] whole = Written.value(text);
             for (int p = 0; p < whole.length; p++) {
                 for (int b = 0; b < 256; b++) {
