@@ -6,7 +6,7 @@ import java.util.ArrayList;
 import java.util.Collections;
 import java.util.List;
 
-/** The public face, as the document writes it, the room that a run takes, and the run that README.md shows. */
+/** The public face, as the document writes it, and the room that a run takes. */
 final class FaceTest {
     private static final String[] FACE = {
         "boolean put(int, int)", "boolean set(int, int)", "boolean cut(int)", "int size()", "int at(int)",
@@ -18,7 +18,6 @@ final class FaceTest {
         face();
         nested();
         littleIsMade();
-        readme();
         Check.end();
     }
 
@@ -72,16 +71,30 @@ final class FaceTest {
         }
     }
 
-    /** All calls of a run live in one room of 7.3 million fields and elements: an object takes a tenth of it at most. */
+    /**
+     * All calls of a run live in one room of 600,000 objects and 7.3 million fields and elements: an object takes
+     * a hundredth of it at most, and its calls nothing. What the machine itself makes now and then must not count,
+     * so the least of some measures does.
+     */
     private static void littleIsMade() {
+        long byObject = Long.MAX_VALUE;
+        long byCalls = Long.MAX_VALUE;
+        for (int k = 0; k < 20; k++) {
+            long before = bytesMade();
+            PathShelf shelf = new PathShelf();
+            long between = bytesMade();
+            useUp(shelf);
+            byObject = Math.min(byObject, between - before);
+            byCalls = Math.min(byCalls, bytesMade() - between);
+        }
+        Check.due("bytes made by an object: " + byObject, byObject < 73_000 * 4, true);
+        Check.due("bytes made by its calls: " + byCalls, byCalls < 1000, true);
+    }
+
+    private static long bytesMade() {
         com.sun.management.ThreadMXBean threads =
             (com.sun.management.ThreadMXBean) java.lang.management.ManagementFactory.getThreadMXBean();
-        long thread = Thread.currentThread().getId();
-        useUp(new PathShelf());
-        long before = threads.getThreadAllocatedBytes(thread);
-        useUp(new PathShelf());
-        long made = threads.getThreadAllocatedBytes(thread) - before;
-        Check.due("bytes made by an object and its calls: " + made, made < 730_000 * 4, true);
+        return threads.getThreadAllocatedBytes(Thread.currentThread().getId());
     }
 
     /** 14 times 35 calls. */
@@ -127,24 +140,5 @@ final class FaceTest {
         shelf.cut(0);
         shelf.remove(5);
         shelf.count();
-    }
-
-    private static void readme() {
-        Shelf shelf = new Shelf();
-        shelf.put(0x0d016964, 4);
-        shelf.put(0x00000501, 4);
-        shelf.put(0x61000002, 4);
-        shelf.put(0, 1);
-        Check.due("insert", shelf.insert(), 5);
-        shelf.path('a', 1);
-        shelf.index(0);
-        shelf.put(0x010003, 3);
-        Check.due("where", shelf.where(2), 0);
-        Check.due("find", shelf.find(), 1);
-        Check.due("found", shelf.found(0), 5);
-        Check.due("examined", shelf.examined(), 1);
-        shelf.put(0x010001, 3);
-        Check.due("change", shelf.change(2), 1);
-        shelf.dueStored("a is 3", "{id:5, a:3}");
     }
 }
